@@ -88,7 +88,7 @@ public final class LiftedSystems {
             return OUTSIDE;
         }
         clearing.clear(now);
-        if (!clearing.isSolvable()) {
+        if (!clearing.fitsSide()) {
             return NONE;
         }
         return shownPart(clearing.solutionAbove(j), clearing.solutionBelow(j), what);
@@ -167,34 +167,19 @@ public final class LiftedSystems {
     // ---- near
 
     public long near(int j) {
-        if (!now.has(j)) {
-            return UNKNOWN;
-        }
-        clearing.clear(now);
-        if (!clearing.isSolvable()) {
-            return NONE;
-        }
-        return Bits.ofDouble(clearing.nearest(j));
+        int refusal = whyNoValue(j);
+        return refusal != 0 ? refusal : bitsOfDouble(clearing.nearest(j));
     }
 
     public long shortly(int j) {
-        if (!now.has(j)) {
-            return UNKNOWN;
-        }
-        clearing.clear(now);
-        if (!clearing.isSolvable()) {
-            return NONE;
-        }
-        return Bits.ofFloat((float) clearing.nearest(j));
+        int refusal = whyNoValue(j);
+        return refusal != 0 ? refusal : bitsOfFloat((float) clearing.nearest(j));
     }
 
     public long cut(int j) {
-        if (!now.has(j)) {
-            return UNKNOWN;
-        }
-        clearing.clear(now);
-        if (!clearing.isSolvable()) {
-            return NONE;
+        int refusal = whyNoValue(j);
+        if (refusal != 0) {
+            return refusal;
         }
         float thousandfold = (float) clearing.nearest(j) * 1000f;
         return (int) thousandfold + CUT_SHOWN;
@@ -402,6 +387,15 @@ public final class LiftedSystems {
         return clearing.rank;
     }
 
+    /** 0: there is a SOLUTION, X j in it, and the table is cleared. */
+    private int whyNoValue(int j) {
+        if (!now.has(j)) {
+            return UNKNOWN;
+        }
+        clearing.clear(now);
+        return clearing.fitsSide() ? 0 : NONE;
+    }
+
     private boolean primeIsBad() {
         residues.clear(now);
         return residues.rank < now.n;
@@ -498,6 +492,34 @@ public final class LiftedSystems {
         return power;
     }
 
+    private static long bitsOfDouble(double value) {
+        long bits = bitsOfSize(value < 0 ? 0 - value : value, 52, 1023);
+        return value < 0 ? bits | 1L << 63 : bits;
+    }
+
+    private static long bitsOfFloat(float value) {
+        long bits = bitsOfSize(value < 0 ? 0 - value : value, 23, 127);
+        return value < 0 ? bits | 1L << 31 : bits;
+    }
+
+    /**
+     * Of 0 and of what is neither tiny nor huge, as all solutions are. Doubling is exact; when the
+     * first bit has come to its place, all the others are whole.
+     */
+    private static long bitsOfSize(double size, int places, int bias) {
+        if (size == 0) {
+            return 0;
+        }
+        long first = 1L << places;
+        double doubled = size;
+        long exponent = bias + places;
+        for (int step = 0; step < places + bias && doubled < first; step++) {
+            doubled *= 2;
+            exponent--;
+        }
+        return (exponent << places) + ((long) doubled - first);
+    }
+
     // Divisors are never 0 where these are asked; the tests keep the machine from throwing all the same.
 
     private static long quotient(long a, long b) {
@@ -505,7 +527,11 @@ public final class LiftedSystems {
     }
 
     private static int leftOver(long a, int p) {
-        return p == 0 ? 0 : (int) Math.floorMod(a, (long) p);
+        if (p == 0) {
+            return 0;
+        }
+        long left = a % p;
+        return (int) (left < 0 ? left + p : left);
     }
 
     private static long gcd(long a, long b) {
@@ -613,45 +639,92 @@ public final class LiftedSystems {
         }
     }
 
-    /**
-     * THE TABLE with THE SIDE behind it, cleared without fractions: row r over the scale is row r of
-     * CLEARED, and all numbers are determinants of parts of THE TABLE, so that they stay small.
-     */
-    private static final class Clearing {
+    /** Rows with THE TABLE and THE SIDE ahead, in which LEADING COLUMNS are cleared one by one. */
+    private abstract static class Rows {
         int n;
         int rank;
-        long scale;
-        int sign;
-        final long[][] rows = new long[MOST_ROWS][WIDTH];
-        final int[] leads = new int[MOST_ROWS];
+        int exchanges;
+        final long[][] rows;
+        private final int width;
 
-        void clear(Equations equations) {
-            n = equations.n;
+        Rows(int width) {
+            this.width = width;
+            rows = new long[MOST_ROWS][width];
+        }
+
+        /** Clears COLUMN j out of all rows but that at the rank, where it is not 0. */
+        abstract void clearColumn(int j);
+
+        void clearColumns() {
             rank = 0;
-            scale = 1;
-            sign = 1;
-            for (int i = 0; i < MOST_ROWS; i++) {
-                for (int j = 0; j < WIDTH; j++) {
-                    rows[i][j] = equations.number(i, j);
-                }
-            }
+            exchanges = 0;
             for (int j = 0; j < n; j++) {
-                lead(j);
+                if (raise(j)) {
+                    clearColumn(j);
+                    rank++;
+                }
             }
         }
 
-        private void lead(int j) {
+        /** Puts a row in which COLUMN j is not 0 at the rank; false: there is none, j is not LEADING. */
+        private boolean raise(int j) {
             int found = rank;
             while (found < n && rows[found][j] == 0) {
                 found++;
             }
             if (found >= n) {
-                return;
+                return false;
             }
             if (found > rank) {
-                exchange(found, rank);
-                sign = -sign;
+                exchangeRows(found, rank);
+                exchanges++;
             }
+            return true;
+        }
+
+        private void exchangeRows(int i, int k) {
+            for (int j = 0; j < width; j++) {
+                long was = rows[i][j];
+                rows[i][j] = rows[k][j];
+                rows[k][j] = was;
+            }
+        }
+
+        /** Rows of zeros have a 0 at THE SIDE, too. */
+        boolean fitsSide() {
+            for (int i = rank; i < n; i++) {
+                if (rows[i][SIDE] != 0) {
+                    return false;
+                }
+            }
+            return true;
+        }
+    }
+
+    /**
+     * Cleared without fractions: row r over the scale is row r of CLEARED, and all numbers are
+     * determinants of parts of THE TABLE and THE SIDE, so that they stay small.
+     */
+    private static final class Clearing extends Rows {
+        long scale;
+        final int[] leads = new int[MOST_ROWS];
+
+        Clearing() {
+            super(WIDTH);
+        }
+
+        void clear(Equations equations) {
+            n = equations.n;
+            scale = 1;
+            for (int i = 0; i < MOST_ROWS; i++) {
+                for (int j = 0; j < WIDTH; j++) {
+                    rows[i][j] = equations.number(i, j);
+                }
+            }
+            clearColumns();
+        }
+
+        void clearColumn(int j) {
             for (int i = 0; i < n; i++) {
                 if (i != rank) {
                     clearRow(i, j);
@@ -659,15 +732,6 @@ public final class LiftedSystems {
             }
             scale = rows[rank][j];
             leads[rank] = j;
-            rank++;
-        }
-
-        private void exchange(int i, int k) {
-            for (int j = 0; j < WIDTH; j++) {
-                long was = rows[i][j];
-                rows[i][j] = rows[k][j];
-                rows[k][j] = was;
-            }
         }
 
         /** The division by the scale before leaves nothing over (Bareiss). */
@@ -680,24 +744,18 @@ public final class LiftedSystems {
         }
 
         long determinant() {
-            return rank == n ? sign * scale : 0;
-        }
-
-        boolean isSolvable() {
-            for (int i = rank; i < n; i++) {
-                if (rows[i][SIDE] != 0) {
-                    return false;
-                }
+            if (rank < n) {
+                return 0;
             }
-            return true;
+            return exchanges % 2 == 0 ? scale : -scale;
         }
 
         int wideRank() {
-            return isSolvable() ? rank : rank + 1;
+            return fitsSide() ? rank : rank + 1;
         }
 
         int kind() {
-            if (!isSolvable()) {
+            if (!fitsSide()) {
                 return 0;
             }
             return rank == n ? 1 : 2;
@@ -783,19 +841,19 @@ public final class LiftedSystems {
         }
     }
 
-    /** THE TABLE, THE SIDE and the table of ones, all as LEFT OVERS by p, with leading columns cleared. */
-    private static final class Residues {
+    /** Cleared in LEFT OVERS by p, with the table of ones behind THE SIDE: this becomes BACK. */
+    private static final class Residues extends Rows {
         private static final int ALL = WIDTH + MOST_ROWS;
 
-        int n;
         int p;
-        int rank;
-        final int[][] rows = new int[MOST_ROWS][ALL];
+
+        Residues() {
+            super(ALL);
+        }
 
         void clear(Equations equations) {
             n = equations.n;
             p = equations.p();
-            rank = 0;
             for (int i = 0; i < MOST_ROWS; i++) {
                 for (int j = 0; j < WIDTH; j++) {
                     rows[i][j] = leftOver(equations.number(i, j), p);
@@ -804,44 +862,23 @@ public final class LiftedSystems {
                     rows[i][j] = j - WIDTH == i ? 1 : 0;
                 }
             }
-            for (int j = 0; j < n; j++) {
-                lead(j);
-            }
+            clearColumns();
         }
 
-        private void lead(int j) {
-            int found = rank;
-            while (found < n && rows[found][j] == 0) {
-                found++;
+        void clearColumn(int j) {
+            int toOne = oneOver(rows[rank][j]);
+            for (int c = 0; c < ALL; c++) {
+                rows[rank][c] = leftOver(rows[rank][c] * toOne, p);
             }
-            if (found >= n) {
-                return;
-            }
-            raise(found, oneOver(rows[found][j]));
             for (int i = 0; i < n; i++) {
-                if (i != rank) {
-                    clearRow(i, rows[i][j]);
+                long factor = i == rank ? 0 : rows[i][j];
+                for (int c = 0; c < ALL; c++) {
+                    rows[i][c] = leftOver(rows[i][c] - factor * rows[rank][c], p);
                 }
             }
-            rank++;
         }
 
-        /** The row found becomes the row at the rank, times the factor. */
-        private void raise(int found, int factor) {
-            for (int j = 0; j < ALL; j++) {
-                int was = rows[found][j];
-                rows[found][j] = rows[rank][j];
-                rows[rank][j] = leftOver(was * factor, p);
-            }
-        }
-
-        private void clearRow(int i, int factor) {
-            for (int j = 0; j < ALL; j++) {
-                rows[i][j] = leftOver(rows[i][j] - factor * rows[rank][j], p);
-            }
-        }
-
-        private int oneOver(int v) {
+        private int oneOver(long v) {
             for (int w = 1; w < p; w++) {
                 if (leftOver(v * w, p) == 1) {
                     return w;
@@ -851,10 +888,8 @@ public final class LiftedSystems {
         }
 
         int ways() {
-            for (int i = rank; i < n; i++) {
-                if (rows[i][SIDE] != 0) {
-                    return 0;
-                }
+            if (!fitsSide()) {
+                return 0;
             }
             int ways = 1;
             for (int free = rank; free < n; free++) {
@@ -863,9 +898,9 @@ public final class LiftedSystems {
             return ways;
         }
 
-        /** C i j of BACK, where p is not BAD: what has made ones of THE TABLE has made it of the ones. */
+        /** C i j of BACK, where p is not BAD. */
         int inverse(int i, int j) {
-            return rows[i][WIDTH + j];
+            return (int) rows[i][WIDTH + j];
         }
     }
 
@@ -881,7 +916,6 @@ public final class LiftedSystems {
             power = 1;
             for (int i = 0; i < MOST_ROWS; i++) {
                 rests[i] = equations.number(i, SIDE);
-                digits[i] = 0;
                 made[i] = 0;
             }
         }
@@ -988,34 +1022,6 @@ public final class LiftedSystems {
                 allFound = guess.found;
                 allRight = allRight && guess.is(clearing.solutionAbove(j), clearing.solutionBelow(j));
             }
-        }
-    }
-
-    /** The bits of doubles and floats that are 0 or neither tiny nor huge, as all solutions are. */
-    private static final class Bits {
-        static long ofDouble(double value) {
-            long bits = ofSize(value < 0 ? 0 - value : value, 52, 1023);
-            return value < 0 ? bits | 1L << 63 : bits;
-        }
-
-        static long ofFloat(float value) {
-            long bits = ofSize(value < 0 ? 0 - value : value, 23, 127);
-            return value < 0 ? bits | 1L << 31 : bits;
-        }
-
-        /** Doubling is exact; when the first bit has come to its place, all the others are whole. */
-        private static long ofSize(double size, int places, int bias) {
-            if (size == 0) {
-                return 0;
-            }
-            long first = 1L << places;
-            double doubled = size;
-            long exponent = bias + places;
-            for (int step = 0; step < places + bias && doubled < first; step++) {
-                doubled *= 2;
-                exponent--;
-            }
-            return (exponent << places) + ((long) doubled - first);
         }
     }
 
