@@ -25,7 +25,7 @@ public final class FaceTest {
         "\\bthrow\\b", "\\bthrows\\b", "\\btry\\b", "\\bcatch\\b", "\\bsynchronized\\b", "\\bassert\\b", "->", "::",
         "\\bimport\\b", "\\bpackage\\b", "Exact\\b", "\\bprotected\\b", "\\bstatic \\{", "\\bvar\\b", "\\bDouble\\b",
         "\\bFloat\\b", "\\bBig[A-Z]", "\\bSystem\\.(?!arraycopy\\b)", "\\bvolatile\\b", "\\bnative\\b", "\\bThread\\b",
-        "\\bobject\\.(equals|hashCode|toString)\\b", "\\bwhile \\(true\\)", "\\bfor \\(;;\\)"
+        "\\.(equals|hashCode|toString)\\(", "\\bwhile \\(true\\)", "\\bfor \\(;;\\)"
     };
 
     public static void main(String[] args) throws Exception {
