@@ -45,14 +45,12 @@ public final class NearTest {
     }
 
     private static void allSmallFractions() {
-        LiftedSystems x = Tables.of(new int[][] {{1, 1}});
         for (int a = -9; a <= 9; a++) {
             if (a == 0) {
                 continue;
             }
-            x.put(0, 0, a);
             for (int b = -99; b <= 99; b++) {
-                x.side(0, b);
+                LiftedSystems x = Tables.of(new int[][] {{a, b}});
                 // 0.0 put ahead makes 0 of what would be 0 below 0.
                 double nearest = 0.0 + (double) b / a;
                 due(b + " by " + a + ": near", x.near(0), Double.doubleToRawLongBits(nearest));

@@ -42,8 +42,8 @@ public final class PrimeTest {
 
     private static void backTimesTableIsOne() {
         int[][] rows = {{0, 3, -5, 9, 1}, {2, 0, 8, -7, 2}, {-9, 4, 0, 1, 3}, {6, 6, -2, 0, 4}};
-        LiftedSystems x = Tables.of(rows);
         for (int prime = 0; prime < 25; prime++) {
+            LiftedSystems x = Tables.of(rows);
             int p = x.prime(prime);
             for (int i = 0; i < 4 && x.told(8) == 0; i++) {
                 for (int j = 0; j < 4; j++) {

@@ -8,6 +8,8 @@ public final class RefusalTest {
         18, 20, 24, 25, 60, 61, 99, 100, 101, 65536, 1 << 30, Integer.MAX_VALUE - 1, Integer.MAX_VALUE
     };
     private static final int CALLS = 26;
+    /** So that an object, with what makes and what looks at it, comes to no more than 512 calls. */
+    private static final int MOST_ASKED = 300;
 
     public static void main(String[] args) {
         for (int call = 0; call < CALLS; call++) {
@@ -42,8 +44,9 @@ public final class RefusalTest {
 
     private static void tryAll(int call, int kind) {
         int arity = arity(call);
+        String before = Tables.picture(made(kind));
         LiftedSystems x = made(kind);
-        String before = Tables.picture(x);
+        int asked = 0;
         for (int a = 0; a < (arity > 0 ? ARGUMENTS.length : 1); a++) {
             for (int b = 0; b < (arity > 1 ? ARGUMENTS.length : 1); b++) {
                 for (int c = 0; c < (arity > 2 ? ARGUMENTS.length : 1); c++) {
@@ -51,12 +54,22 @@ public final class RefusalTest {
                     boolean refused = answer <= LiftedSystems.UNKNOWN && answer >= LiftedSystems.FULL;
                     // Bits of doubles below 0 are numbers below 0.
                     Check.holds("call " + call + " answers " + answer, refused || answer >= -1 || call == 9 && answer < LiftedSystems.FULL);
+                    asked++;
                     if (!refused && call > 11) {
                         x = made(kind);
+                        asked = 0;
+                    } else if (asked == MOST_ASKED) {
+                        changedNothing(call, before, x);
+                        x = made(kind);
+                        asked = 0;
                     }
                 }
             }
         }
+        changedNothing(call, before, x);
+    }
+
+    private static void changedNothing(int call, String before, LiftedSystems x) {
         Check.holds("call " + call + ": what is refused or only asked changes nothing", before.equals(Tables.picture(x)));
     }
 
