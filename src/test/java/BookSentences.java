@@ -37,6 +37,16 @@ final class BookSentences extends Sentences {
         x.undo(4);
         due("as it was", x.told(16), NONE);
         eachEntryWrong();
+        for (int n = 2; n <= 4; n++) {
+            LiftedSystems gone = new LiftedSystems();
+            gone.size(n);
+            gone.write(n - 1, 0, 0);
+            due("X " + (n - 1) + " is 0", gone.told(16), NONE);
+            gone.size(n - 1);
+            due("there is no X " + (n - 1) + ", though all digits are 0", gone.told(16), 0);
+            gone.size(n);
+            due("there is again", gone.told(16), NONE);
+        }
         LiftedSystems bad = one(7, 1);
         due("p BAD, but no book", bad.told(16), NONE);
         bad.write(0, 0, 0);

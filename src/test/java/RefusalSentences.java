@@ -136,6 +136,8 @@ final class RefusalSentences extends Sentences {
         add(all, "put: row, v", x -> x.put(3, 0, 10), UNKNOWN);
         add(all, "put: column, v", x -> x.put(0, 3, -10), UNKNOWN);
         add(all, "side: row, v", x -> x.side(3, 100), UNKNOWN);
+        add(all, "swap: a row that there is not", x -> x.swap(0, 3), UNKNOWN);
+        add(all, "swap: one twice", x -> x.swap(2, 2), UNKNOWN);
         add(all, "mix: one twice, t", x -> x.mix(1, 1, 4), UNKNOWN);
         add(all, "mix: one twice, would be FULL", x -> x.mix(1, 1, 3), UNKNOWN);
         add(all, "mix: row, t", x -> x.mix(0, 3, 4), UNKNOWN);
@@ -149,6 +151,7 @@ final class RefusalSentences extends Sentences {
         add(all, "write: k, FULL", x -> x.write(0, 100, 0), OUTSIDE);
         add(all, "write: k below, FULL", x -> x.write(0, -1, 0), OUTSIDE);
         add(all, "write: FULL alone", x -> x.write(0, 99, 0), FULL);
+        add(all, "keep: no image", x -> x.keep(2), UNKNOWN);
         add(all, "goBack: no image", x -> x.goBack(2), UNKNOWN);
         add(all, "goBack: not kept", x -> x.goBack(1), NOT);
         return all;
@@ -221,7 +224,7 @@ final class RefusalSentences extends Sentences {
     /** All that can be seen of an object: as it is, behind each undoing, and of its images and draws. */
     private static String traced(LiftedSystems x) {
         StringBuilder all = new StringBuilder(Tables.picture(x));
-        while (x.undo(1) >= 0) {
+        for (int time = 0; time < 16 && x.undo(1) >= 0; time++) {
             all.append(" undone ").append(Tables.picture(x));
         }
         for (int image = 0; image <= 1; image++) {
@@ -301,5 +304,9 @@ final class RefusalSentences extends Sentences {
             due("call " + call, x.side(0, call % 100), 100 + (call == 1 ? 0 : (call - 1) % 100));
         }
         due("call 512", x.told(17), 16);
+        LiftedSystems y = one(7, 1);
+        for (int call = 5; call <= 512; call++) {
+            due("call " + call, y.told(8), 1);
+        }
     }
 }

@@ -1,3 +1,5 @@
+import java.util.Arrays;
+
 /** The terms of the first part, and promises 1 to 6: a new object, told, at, cleared, solution, nothing. */
 final class TableSentences extends Sentences {
     private static final int GREATEST_DETERMINANT = 16 * 9 * 9 * 9 * 9;
@@ -154,6 +156,35 @@ final class TableSentences extends Sentences {
         due("of three", of(row(0, 0, 2, 1), row(0, 3, 7, 1), row(5, 8, 9, 1)).told(2), P - 30);
         due("the greatest", greatest(1).told(2), P + GREATEST_DETERMINANT);
         due("the least", greatest(-1).told(2), P - GREATEST_DETERMINANT);
+        for (int n = 1; n <= 4; n++) {
+            orders(n, new int[n], 0, 1);
+        }
+    }
+
+    /** One number in each row and column, in every order: the sign is that of the order. */
+    private static void orders(int n, int[] columns, int chosen, int sign) {
+        if (chosen == n) {
+            int[][] rows = new int[n][n + 1];
+            int product = sign;
+            for (int i = 0; i < n; i++) {
+                rows[i][columns[i]] = i + 2;
+                product *= i + 2;
+            }
+            due("the columns in the order " + Arrays.toString(columns), Tables.of(rows).told(2), P + product);
+            return;
+        }
+        for (int j = 0; j < n; j++) {
+            int greaterAhead = 0;
+            boolean isFree = true;
+            for (int i = 0; i < chosen; i++) {
+                isFree &= columns[i] != j;
+                greaterAhead += columns[i] > j ? 1 : 0;
+            }
+            if (isFree) {
+                columns[chosen] = j;
+                orders(n, columns, chosen + 1, greaterAhead % 2 == 0 ? sign : -sign);
+            }
+        }
     }
 
     private static void leading() {
@@ -457,6 +488,11 @@ final class TableSentences extends Sentences {
             due("one before", y.solution(-1, 0), UNKNOWN);
             due("what -1", y.solution(n - 1, -1), OUTSIDE);
             due("what 2", y.solution(n - 1, 2), OUTSIDE);
+            y.put(0, n - 1, 0);
+            y.side(0, 1);
+            due("there is none", y.solution(n - 1, 1), NONE);
+            due("there is none, one more", y.solution(n, 1), UNKNOWN);
+            due("there is none, what 2", y.solution(n - 1, 2), OUTSIDE);
         }
     }
 

@@ -52,10 +52,30 @@ final class UndoSentences extends Sentences {
         for (int k = 0; k < refused.length; k++) {
             due("refused call " + k, refused[k], 0);
         }
-        int[] others = {of(x -> x.write(0, 0, 0)), of(LiftedSystems::tear), of(x -> x.seed(5)), of(x -> x.keep(1)), of(x -> x.goBack(0)), of(x -> x.told(3))};
-        for (int k = 0; k < others.length; k++) {
-            due("no deed " + k, others[k], 0);
-        }
+        isNoDeed("write()", x -> x.write(0, 0, 0));
+        isNoDeed("tear()", LiftedSystems::tear);
+        isNoDeed("seed()", x -> x.seed(5));
+        isNoDeed("told()", x -> x.told(14));
+        isNoDeed("digit()", x -> x.digit(1, 99));
+        isNoDeed("a refused undo()", x -> x.undo(3));
+        isNoDeed("a refused goBack()", x -> x.goBack(1));
+        isNoDeed("a refused keep()", x -> x.keep(2));
+        due("keep() ends them", of(x -> x.put(0, 0, 3) + x.keep(1)), 0);
+        due("goBack() ends them", of(x -> x.put(0, 0, 3) + x.goBack(0)), 0);
+        due("undo() takes one back", of(x -> x.put(0, 0, 3) + x.put(0, 0, 4) + x.undo(1)), 1);
+    }
+
+    /** Two deeds ahead of the call stay undoable, and no other comes to them. */
+    private static void isNoDeed(String name, ToIntFunction<LiftedSystems> call) {
+        LiftedSystems x = made();
+        x.put(0, 0, 8);
+        x.put(0, 0, 9);
+        call.applyAsInt(x);
+        due(name + " is no deed", x.told(17), 2);
+        due(name + ": undo(1)", x.undo(1), 1);
+        due(name + ": at(0, 0)", x.at(0, 0), 108);
+        due(name + ": undo(1)", x.undo(1), 0);
+        dueRows(name, x, row(1, 2, 3), row(4, 5, 6));
     }
 
     /** How many deeds a call is. */
