@@ -5,7 +5,8 @@ public final class ModelTest {
     private static final int RUNS = 400;
     /** What calls beyond these answer is free. */
     private static final int CALLS = 512;
-    private static final int MOST_AT_ONCE = 3;
+    /** A whole table of four rows, with the size ahead of it and the prime behind. */
+    private static final int MOST_AT_ONCE = 22;
 
     private final Random random;
     private final LiftedSystems x = new LiftedSystems();
@@ -72,12 +73,43 @@ public final class ModelTest {
     }
 
     private void call() {
-        if (random.nextInt(3) == 0) {
+        if (random.nextInt(30) == 0) {
+            wholeTable();
+        } else if (random.nextInt(3) == 0) {
             deed();
         } else if (random.nextInt(6) == 0) {
             bookOrImage();
         } else {
             question();
+        }
+    }
+
+    /** Tables of one kind, which put() alone comes to seldom: the greatest numbers, many zeros, rows like others. */
+    private void wholeTable() {
+        int n = 1 + random.nextInt(4);
+        int kind = random.nextInt(4);
+        int[][] rows = new int[n][n];
+        due("size(" + n + ")", x.size(n), m.size(n));
+        for (int i = 0; i < n; i++) {
+            int times = random.nextInt(3) - 1;
+            int like = i > 0 ? random.nextInt(i) : 0;
+            for (int j = 0; j < n; j++) {
+                int v = kind == 3 && i > 0 && i % 2 == 0 ? times * rows[like][j] : numberOfKind(kind);
+                rows[i][j] = v;
+                due("put(" + i + ", " + j + ", " + v + ")", x.put(i, j, v), m.put(i, j, v));
+            }
+            int b = kind == 0 ? 99 - 198 * random.nextInt(2) : random.nextInt(199) - 99;
+            due("side(" + i + ", " + b + ")", x.side(i, b), m.side(i, b));
+        }
+        int k = random.nextInt(25);
+        due("prime(" + k + ")", x.prime(k), m.prime(k));
+    }
+
+    private int numberOfKind(int kind) {
+        switch (kind) {
+            case 0: return 9 - random.nextInt(2) - 17 * random.nextInt(2);
+            case 1: return random.nextInt(3) == 0 ? random.nextInt(19) - 9 : 0;
+            default: return random.nextInt(19) - 9;
         }
     }
 
